@@ -492,7 +492,11 @@ public final class NestFinder {
     // ---- numbers
 
     private static int figure(long row, int place) {
-        return (int) (row / tens(place) % 10);
+        long left = row;
+        for (int i = 0; i < place; i++) {
+            left /= 10;
+        }
+        return (int) (left % 10);
     }
 
     private static long tens(int exponent) {
@@ -695,7 +699,8 @@ public final class NestFinder {
                 return FULL;
             }
             // p may be x itself: the copy takes its arcs ahead of their being turned
-            for (int i = 0; i < counts[x]; i++) {
+            int count = counts[x];
+            for (int i = 0; i < count; i++) {
                 putArcBehind(copy, target(x, i));
             }
             turnArcs(p, x, copy);

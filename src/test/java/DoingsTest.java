@@ -169,7 +169,69 @@ final class DoingsTest {
         Check.same("picture", Check.picture(x), "a1 b0");
     }
 
+    /** What is tried by other calls in between must not get into a doing. */
+    private static void doingsBeginWithTheGraph() {
+        NestFinder x = Check.of("G3a12b2c1");
+        x.wipe();
+        Check.write(x, "G2z1y0");
+        x.fault();
+        Check.due("add(1, 1)", x.add(1, 1), 2);
+        x.would(0);
+        Check.due("cut(1, 0)", x.cut(1, 0), 2);
+        x.torn(0, 5, true);
+        Check.due("split(0, 2)", x.split(0, 2), 3);
+        x.drawn(20);
+        Check.due("add(1, 2)", x.add(1, 2), 2);
+        Check.due("add(3, 2)", x.add(3, 2), 2);
+        x.share(0, 0, true);
+        Check.due("judge(1, 110)", x.judge(1, 110), NestFinder.NONE);
+        x.fault();
+        Check.due("judge(1, 400)", x.judge(1, 400), 0);
+        x.fault();
+        Check.due("mend()", x.mend(), 1);
+        Check.same("picture", Check.picture(x), "a1,3 b1,2 c1 c1,4 c1");
+    }
+
+    private static void allOfTwelveBlocksComesBack() {
+        NestFinder x = Check.of("G8a1b2c3d4e5f6g7h777");
+        Check.due("split(7, 7)", x.split(7, 7), 8);
+        for (int b = 9; b < 12; b++) {
+            Check.due("split(" + (b - 1) + ", " + (b - 2) + ")", x.split(b - 1, b - 2), b);
+        }
+        String was = Check.picture(x);
+        Check.same("picture", was, "a1 b2 c3 d4 e5 f6 g7 h8,8,8 h9,9,9 h10,10,10 h11,11,11 h10,10,10");
+        x.keep(1);
+        for (int i = 0; i < 3; i++) {
+            x.cut(11, 0);
+            x.cut(10, 0);
+        }
+        for (int i = 0; i < 6; i++) {
+            x.undo();
+        }
+        Check.same("undone", Check.picture(x), was);
+        x.cut(11, 1);
+        x.add(11, 3);
+        x.again(1);
+        Check.same("kept", Check.picture(x), was);
+    }
+
+    private static void actsComeBack() {
+        NestFinder x = Check.of("G3a12bc");
+        x.split(0, 1);
+        x.keep(0);
+        x.add(3, 3);
+        x.undo();
+        x.undo();
+        x.split(0, 2);
+        Check.same("picture", Check.picture(x), "a1,3 b c c");
+        x.again(0);
+        Check.same("kept", Check.picture(x), "a3,2 b c b");
+    }
+
     public static void main(String[] args) {
+        doingsBeginWithTheGraph();
+        allOfTwelveBlocksComesBack();
+        actsComeBack();
         adding();
         cutting();
         splitting();

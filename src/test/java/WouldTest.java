@@ -84,6 +84,7 @@ final class WouldTest {
         judged(x, 1, 201, NONE);
         judged(x, 1, 202, 0);
         judged(x, 1, 230, 0);
+        judged(x, 2, 110211, NONE);
         judged(x, 3, 200200200, 2);
         judged(x, 1, 302, NONE);
         judged(x, 1, 300, 0);
