@@ -3,7 +3,7 @@ final class ChancesTest {
     private static final int NONE = NestFinder.NONE, BAD = NestFinder.BAD, LATE = NestFinder.LATE;
 
     private static void seeing() {
-        NestFinder x = new NestFinder();
+        Both x = new Both();
         int[][] wrong = {{-1, 'a', 0}, {5, 'a', 0}, {0, 'a' - 1, 0}, {0, 'z' + 1, 0}, {0, 'A', 0}, {0, 'a', -1}, {0, 'a', 2},
             {Integer.MIN_VALUE, 'a', 1}, {0, Integer.MAX_VALUE, 1}};
         for (int[] w : wrong) {
@@ -25,14 +25,14 @@ final class ChancesTest {
         Check.due("see(1, 'b', 1)", x.see(1, 'b', 1), 1);
     }
 
-    private static void rowsAre(NestFinder x, String name, int count, int first) {
+    private static void rowsAre(Both x, String name, int count, int first) {
         Check.due(name + ": rows(0)", x.rows(0), count);
         Check.due(name + ": rows(1)", x.rows(1), first);
     }
 
     /** From a by 0, 1, 2 to b, c, d, and from each of these back to a. */
     private static void rows() {
-        NestFinder x = Check.of("G4a123b0c0d0");
+        Both x = Check.of("G4a123b0c0d0");
         rowsAre(x, "nothing seen", 81, 0);
         x.see(1, 'c', 1);
         rowsAre(x, "c behind 1", 27, 1000);
@@ -55,7 +55,7 @@ final class ChancesTest {
     }
 
     private static void rowsByTheGraphAsItIs() {
-        NestFinder x = Check.of("G2a1b");
+        Both x = Check.of("G2a1b");
         x.see(4, 'a', 1);
         rowsAre(x, "one stays at b", 0, NONE);
         x.add(1, 0);
@@ -65,13 +65,13 @@ final class ChancesTest {
         x.undo();
         x.undo();
         rowsAre(x, "undone", 0, NONE);
-        NestFinder empty = new NestFinder();
+        Both empty = new Both();
         Check.due("no block: rows(0)", empty.rows(0), LATE);
         Check.due("no block: rows(1)", empty.rows(1), LATE);
         Check.due("no block: rows(2)", empty.rows(2), BAD);
     }
 
-    private static void tornIs(NestFinder x, int block, int tenths, int above, int below) {
+    private static void tornIs(Both x, int block, int tenths, int above, int below) {
         String was = Check.picture(x);
         String call = "torn(" + block + ", " + tenths + ", ";
         Check.due(call + "true) of " + was, x.torn(block, tenths, true), above);
@@ -81,14 +81,14 @@ final class ChancesTest {
     }
 
     private static void torn() {
-        NestFinder x = Check.of("G3a12b2c1");
+        Both x = Check.of("G3a12b2c1");
         tornIs(x, 0, 0, 0, 1);
         tornIs(x, 0, 10, 1, 1);
         tornIs(x, 0, 3, 51, 100);
         tornIs(x, 0, 5, 3, 4);
         tornIs(x, 1, 3, 3, 10);
         tornIs(x, 2, 4, 2, 5);
-        NestFinder y = Check.of("G4a122b2c1d");
+        Both y = Check.of("G4a122b2c1d");
         tornIs(y, 0, 1, 109, 1000);
         tornIs(y, 0, 5, 5, 8);
         tornIs(y, 3, 5, 0, 1);
@@ -96,7 +96,7 @@ final class ChancesTest {
     }
 
     private static void wrongTorn() {
-        NestFinder x = Check.of("G2a1b");
+        Both x = Check.of("G2a1b");
         int[] strangers = {-1, 2, 12, Integer.MIN_VALUE, Integer.MAX_VALUE};
         for (int b : strangers) {
             Check.due("torn(" + b + ", 11, true)", x.torn(b, 11, true), NestFinder.UNKNOWN);
@@ -107,7 +107,7 @@ final class ChancesTest {
     }
 
     private static void seeds() {
-        NestFinder x = new NestFinder();
+        Both x = new Both();
         Check.due("seed(5)", x.seed(5), 0);
         Check.due("seed(MIN)", x.seed(Long.MIN_VALUE), 5);
         Check.due("seed(-1)", x.seed(-1), Long.MIN_VALUE);
@@ -131,7 +131,8 @@ final class ChancesTest {
         return (drawn - 1442695040888963407L) * back;
     }
 
-    private static void drawnOnce(NestFinder x, int one, int other, int kind, int want) {
+    private static void drawnOnce(String text, int one, int other, int kind, int want) {
+        Both x = Check.of(text);
         String was = Check.picture(x);
         x.seed(seedFor(one, other, kind));
         Check.due("drawn(1) by " + one + ", " + other + ", " + kind + " of " + was, x.drawn(1), want);
@@ -140,7 +141,7 @@ final class ChancesTest {
     }
 
     private static void drawn() {
-        NestFinder x = Check.of("G3a12b0c111");
+        String x = "G3a12b0c111";
         for (int kind = 0; kind <= 2; kind++) {
             drawnOnce(x, 1, 1, kind, 2);
             drawnOnce(x, 1, 2, kind, 2);
@@ -152,13 +153,13 @@ final class ChancesTest {
         drawnOnce(x, 1, 7, 3, 0);
         drawnOnce(x, 0, 0, 3, 1);
         drawnOnce(x, 7, 0, 3, 1);
-        NestFinder y = Check.of("G1a");
+        String y = "G1a";
         drawnOnce(y, 0, 0, 0, 1);
         drawnOnce(y, 0, 0, 3, 0);
     }
 
     private static void drawnOften() {
-        NestFinder x = Check.of("G3a12b2c1");
+        Both x = Check.of("G3a12b2c1");
         x.mend();
         x.seed(9);
         Check.due("drawn(20)", x.drawn(20), 11);
@@ -168,7 +169,7 @@ final class ChancesTest {
     }
 
     private static void slots() {
-        NestFinder x = Check.of("G3a12b2c1");
+        Both x = Check.of("G3a12b2c1");
         int[] strangers = {-1, 2, Integer.MIN_VALUE, Integer.MAX_VALUE};
         for (int slot : strangers) {
             Check.due("keep(" + slot + ")", x.keep(slot), NestFinder.UNKNOWN);
@@ -204,7 +205,7 @@ final class ChancesTest {
     }
 
     private static void slotsWithoutBlocks() {
-        NestFinder x = new NestFinder();
+        Both x = new Both();
         Check.due("keep(0)", x.keep(0), 0);
         Check.due("again(0)", x.again(0), 0);
         Check.due("again(1)", x.again(1), LATE);

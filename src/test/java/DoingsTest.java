@@ -3,7 +3,7 @@ final class DoingsTest {
     private static final int UNKNOWN = NestFinder.UNKNOWN, LATE = NestFinder.LATE, FULL = NestFinder.FULL;
 
     private static void adding() {
-        NestFinder x = Check.of("G2a1b");
+        Both x = Check.of("G2a1b");
         Check.due("add(0, 0)", x.add(0, 0), 2);
         Check.due("add(0, 1)", x.add(0, 1), 3);
         Check.due("add(0, 0), a fourth", x.add(0, 0), FULL);
@@ -17,7 +17,7 @@ final class DoingsTest {
     }
 
     private static void cutting() {
-        NestFinder x = Check.of("G3a121b2c");
+        Both x = Check.of("G3a121b2c");
         int[][] strangers = {{0, 3}, {0, -1}, {2, 0}, {3, 0}, {-1, 0}, {12, 0}, {0, Integer.MAX_VALUE}};
         for (int[] pair : strangers) {
             Check.due("cut(" + pair[0] + ", " + pair[1] + ")", x.cut(pair[0], pair[1]), UNKNOWN);
@@ -30,13 +30,13 @@ final class DoingsTest {
         Check.due("cut(0, 0) of none", x.cut(0, 0), UNKNOWN);
         Check.same("picture", Check.picture(x), "a b2 c");
         Check.due("about(8)", x.about(8), 3);
-        NestFinder y = Check.of("G3a012b2c");
+        Both y = Check.of("G3a012b2c");
         Check.due("cut(0, 0)", y.cut(0, 0), 0);
         Check.same("picture", Check.picture(y), "a1,2 b2 c");
     }
 
     private static void splitting() {
-        NestFinder x = Check.of("G3a121b20c0");
+        Both x = Check.of("G3a121b20c0");
         Check.due("split(0, 1)", x.split(0, 1), 3);
         Check.same("picture", Check.picture(x), "a3,2,3 b2,0 c0 b2,0");
         Check.due("split(0, 1), no arc any more", x.split(0, 1), LATE);
@@ -51,19 +51,19 @@ final class DoingsTest {
     }
 
     private static void splittingOfItself() {
-        NestFinder x = Check.of("G2a010b");
+        Both x = Check.of("G2a010b");
         Check.due("split(0, 0)", x.split(0, 0), 2);
         Check.same("picture", Check.picture(x), "a2,1,2 b a0,1,0");
     }
 
     private static void splittingWhereNoOneComes() {
-        NestFinder x = Check.of("G3ab2c");
+        Both x = Check.of("G3ab2c");
         Check.due("split(1, 2)", x.split(1, 2), 3);
         Check.same("picture", Check.picture(x), "a b3 c c");
     }
 
     private static void splittingUntilFull() {
-        NestFinder x = Check.of("G1a0");
+        Both x = Check.of("G1a0");
         Check.due("split(0, 0)", x.split(0, 0), 1);
         for (int b = 1; b < 11; b++) {
             Check.due("split(" + b + ", " + (b - 1) + ")", x.split(b, b - 1), b + 1);
@@ -81,7 +81,7 @@ final class DoingsTest {
     }
 
     private static void mending() {
-        NestFinder x = Check.of("G3a12b2c1");
+        Both x = Check.of("G3a12b2c1");
         Check.due("mend()", x.mend(), 1);
         Check.same("picture", Check.picture(x), "a1,3 b2 c1 c1");
         Check.due("about(6)", x.about(6), 1);
@@ -92,26 +92,26 @@ final class DoingsTest {
     }
 
     private static void mendingTakesTheLeastFirst() {
-        NestFinder x = Check.of("G4a123b2c1d2");
+        Both x = Check.of("G4a123b2c1d2");
         Check.due("mend()", x.mend(), 2);
         Check.same("two ways in", Check.picture(x), "a1,4,3 b2 c1 d5 c1 c1");
-        NestFinder y = Check.of("G4a12b2c1d2");
+        Both y = Check.of("G4a12b2c1d2");
         Check.due("mend()", y.mend(), 1);
         Check.same("from a block without order", Check.picture(y), "a1,4 b2 c1 d2 c1");
-        NestFinder z = Check.of("G4a132b3c1d2");
+        Both z = Check.of("G4a132b3c1d2");
         Check.due("mend()", z.mend(), 3);
         Check.same("a copy enters, too", Check.picture(z), "a1,5,4 b3 c1 d2 c1 d6 c1");
     }
 
     private static void mendingTakesTheLastHeaderFirst() {
-        NestFinder x = Check.of("G4a13b2c31d2");
+        Both x = Check.of("G4a13b2c31d2");
         Check.due("mend()", x.mend(), 8);
         Check.same("entered within", Check.picture(x), "a1,4 b2 c3,1 d2 d5 c6,1 d7 c8,1 d9 c10,1 d11 c3,1");
         Check.due("about(4)", x.about(4), 2);
     }
 
     private static void mendingWithoutRoom() {
-        NestFinder x = Check.of("G8a12b34c45d16e27f3g5h0");
+        Both x = Check.of("G8a12b34c45d16e27f3g5h0");
         Check.due("mend()", x.mend(), 4);
         Check.due("about(0)", x.about(0), 12);
         Check.due("about(4)", x.about(4), 2);
@@ -124,7 +124,7 @@ final class DoingsTest {
     }
 
     private static void undoing() {
-        NestFinder x = Check.of("G3a12b2c1");
+        Both x = Check.of("G3a12b2c1");
         String[] pictures = new String[5];
         pictures[0] = Check.picture(x);
         x.add(2, 2);
@@ -150,7 +150,7 @@ final class DoingsTest {
     }
 
     private static void doingsAreForgotten() {
-        NestFinder x = Check.of("G2a1b");
+        Both x = Check.of("G2a1b");
         for (int i = 0; i < 10; i++) {
             Check.due("add(1, 0)", x.add(1, 0), 1);
             Check.due("about(8)", x.about(8), Math.min(14, 2 * i + 1));
@@ -171,7 +171,7 @@ final class DoingsTest {
 
     /** What is tried by other calls in between must not get into a doing. */
     private static void doingsBeginWithTheGraph() {
-        NestFinder x = Check.of("G3a12b2c1");
+        Both x = Check.of("G3a12b2c1");
         x.wipe();
         Check.write(x, "G2z1y0");
         x.fault();
@@ -193,7 +193,7 @@ final class DoingsTest {
     }
 
     private static void allOfTwelveBlocksComesBack() {
-        NestFinder x = Check.of("G8a1b2c3d4e5f6g7h777");
+        Both x = Check.of("G8a1b2c3d4e5f6g7h777");
         Check.due("split(7, 7)", x.split(7, 7), 8);
         for (int b = 9; b < 12; b++) {
             Check.due("split(" + (b - 1) + ", " + (b - 2) + ")", x.split(b - 1, b - 2), b);
@@ -216,7 +216,7 @@ final class DoingsTest {
     }
 
     private static void actsComeBack() {
-        NestFinder x = Check.of("G3a12bc");
+        Both x = Check.of("G3a12bc");
         x.split(0, 1);
         x.keep(0);
         x.add(3, 3);

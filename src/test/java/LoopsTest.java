@@ -2,26 +2,26 @@
 final class LoopsTest {
     private static final int NONE = NestFinder.NONE;
 
-    private static void aboutIs(NestFinder x, String name, int... want) {
+    private static void aboutIs(Both x, String name, int... want) {
         for (int what = 0; what < want.length; what++) {
             Check.due(name + ": about(" + what + ")", x.about(what), want[what]);
         }
     }
 
-    private static void blocksAre(NestFinder x, String name, int what, int... want) {
+    private static void blocksAre(Both x, String name, int what, int... want) {
         for (int b = 0; b < want.length; b++) {
             Check.due(name + ": block(" + b + ", " + what + ")", x.block(b, what), want[b]);
         }
     }
 
-    private static void setsAre(NestFinder x, String name, int what, int... want) {
+    private static void setsAre(Both x, String name, int what, int... want) {
         for (int b = 0; b < want.length; b++) {
             Check.due(name + ": sets(" + b + ", " + what + ")", x.sets(b, what), want[b]);
         }
     }
 
     private static void properLoops() {
-        NestFinder x = Check.of("G5a1b2c13d04e");
+        Both x = Check.of("G5a1b2c13d04e");
         String name = "a loop in a loop";
         aboutIs(x, name, 5, 6, 5, 2, 0, 2, 1, 2, 0, 0, 13);
         blocksAre(x, name, 0, 'a', 'b', 'c', 'd', 'e');
@@ -37,7 +37,7 @@ final class LoopsTest {
     }
 
     private static void walkByTheRowOfArcs() {
-        NestFinder x = Check.of("G4a21b3c3d");
+        Both x = Check.of("G4a21b3c3d");
         String name = "a rhomb";
         aboutIs(x, name, 4, 4, 4, 0, 0, 0, 1, 0, 0, 0, 10);
         blocksAre(x, name, 2, 0, 3, 1, 2);
@@ -48,7 +48,7 @@ final class LoopsTest {
     }
 
     private static void blocksWithoutOrder() {
-        NestFinder x = Check.of("G4a1b0c2d1");
+        Both x = Check.of("G4a1b0c2d1");
         String name = "blocks that are not come to";
         aboutIs(x, name, 4, 4, 2, 1, 0, 1, 1, 1, 0, 0, 10);
         blocksAre(x, name, 2, 0, 1, NONE, NONE);
@@ -62,12 +62,12 @@ final class LoopsTest {
     }
 
     private static void aloneLoop() {
-        NestFinder x = Check.of("G1a000");
+        Both x = Check.of("G1a000");
         aboutIs(x, "alone", 1, 3, 1, 1, 0, 1, 1, 3, 0, 0, 6);
         blocksAre(x, "alone", 3, NONE);
         blocksAre(x, "alone", 4, 1);
         setsAre(x, "alone", 3, 0);
-        NestFinder y = Check.of("G2a1b01");
+        Both y = Check.of("G2a1b01");
         blocksAre(y, "alone in a loop", 4, 2, 1);
         blocksAre(y, "alone in a loop", 5, 1, 2);
         blocksAre(y, "alone in a loop", 3, NONE, 0);
@@ -75,7 +75,7 @@ final class LoopsTest {
 
     /** The loop of 1 is entered at 3 as well, which lies in the loop of 2 within it. */
     private static void manyEnteredFromWithin() {
-        NestFinder x = Check.of("G4a13b2c31d2");
+        Both x = Check.of("G4a13b2c31d2");
         String name = "entered within";
         aboutIs(x, name, 4, 6, 4, 2, 2, 2, 0, 2, 0, 0, 12);
         blocksAre(x, name, 3, NONE, NONE, 1, 2);
@@ -88,7 +88,7 @@ final class LoopsTest {
 
     /** The loop of 3 is entered from 2, whose leader by then is 1. */
     private static void entriesAreLeaders() {
-        NestFinder x = Check.of("G5a31b2c14d4e3");
+        Both x = Check.of("G5a31b2c14d4e3");
         String name = "entered from a loop";
         aboutIs(x, name, 5, 7, 5, 2, 1, 1, 0, 2, 0, 0, 14);
         blocksAre(x, name, 2, 0, 3, 4, 1, 2);
@@ -101,14 +101,14 @@ final class LoopsTest {
     }
 
     private static void loopOfTheFirst() {
-        NestFinder x = Check.of("G3a12b0c0");
+        Both x = Check.of("G3a12b0c0");
         blocksAre(x, "two arcs back", 4, 2, 0, 0);
         aboutIs(x, "two arcs back", 3, 4, 3, 1, 0, 1, 1, 2);
         setsAre(x, "two arcs back", 1, 7, 2, 4);
     }
 
     private static void arcsAreTold() {
-        NestFinder x = Check.of("G3a201b1c");
+        Both x = Check.of("G3a201b1c");
         Check.due("arc(0, 0)", x.arc(0, 0), 2);
         Check.due("arc(0, 1)", x.arc(0, 1), 0);
         Check.due("arc(0, 2)", x.arc(0, 2), 1);
@@ -120,7 +120,7 @@ final class LoopsTest {
     }
 
     private static void refusals() {
-        NestFinder x = Check.of("G3a1bc");
+        Both x = Check.of("G3a1bc");
         int[] strangers = {-1, 3, 11, 12, Integer.MIN_VALUE, Integer.MAX_VALUE};
         for (int b : strangers) {
             Check.due("block(" + b + ", 0)", x.block(b, 0), NestFinder.UNKNOWN);

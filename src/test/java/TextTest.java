@@ -1,7 +1,7 @@
 /** Promises 1 to 5: a new object, write, wipe, fault, graph. */
 final class TextTest {
     private static void newObject() {
-        NestFinder x = new NestFinder();
+        Both x = new Both();
         for (int what = 0; what <= 10; what++) {
             Check.due("new: about(" + what + ")", x.about(what), what == 6 ? 1 : 0);
         }
@@ -19,8 +19,8 @@ final class TextTest {
     }
 
     private static void objectsAreApart() {
-        NestFinder one = Check.of("G1a0");
-        NestFinder other = new NestFinder();
+        Both one = Check.of("G1a0");
+        Both other = new Both();
         one.seed(7);
         one.see(0, 'a', 1);
         Check.due("another: about(0)", other.about(0), 0);
@@ -30,7 +30,7 @@ final class TextTest {
     }
 
     private static void writeLetters() {
-        NestFinder x = new NestFinder();
+        Both x = new Both();
         int[] odd = {-1, 256, Integer.MIN_VALUE, Integer.MAX_VALUE};
         for (int letter : odd) {
             Check.due("write(" + letter + ")", x.write(letter), NestFinder.BAD);
@@ -46,7 +46,7 @@ final class TextTest {
     }
 
     private static void wipeLetters() {
-        NestFinder x = Check.of("G2a1b");
+        Both x = Check.of("G2a1b");
         Check.due("wipe()", x.wipe(), 5);
         Check.due("wipe() again", x.wipe(), 0);
         Check.due("about(10)", x.about(10), 0);
@@ -56,7 +56,7 @@ final class TextTest {
     }
 
     private static void faultOf(String text, int want) {
-        NestFinder x = new NestFinder();
+        Both x = new Both();
         Check.write(x, text);
         Check.due("fault() of " + text, x.fault(), want);
         Check.due("fault() of " + text + " once more", x.fault(), want);
@@ -84,7 +84,7 @@ final class TextTest {
     }
 
     private static void faultOfFullText() {
-        NestFinder x = new NestFinder();
+        Both x = new Both();
         Check.write(x, "G8");
         for (int i = 0; i < 62; i++) {
             x.write(i % 4 == 0 ? 'a' : '7');
@@ -94,7 +94,7 @@ final class TextTest {
     }
 
     private static void graphIsRead() {
-        NestFinder x = Check.of("G3a012bc2");
+        Both x = Check.of("G3a012bc2");
         Check.same("picture", Check.picture(x), "a0,1,2 b c2");
         Check.due("about(10): the text stays", x.about(10), 9);
         x.write('!');
@@ -106,7 +106,7 @@ final class TextTest {
     }
 
     private static void whatGraphLeaves() {
-        NestFinder x = Check.of("G2a1b0");
+        Both x = Check.of("G2a1b0");
         x.add(0, 0);
         x.keep(0);
         x.keep(1);
