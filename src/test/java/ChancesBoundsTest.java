@@ -130,6 +130,11 @@ final class ChancesBoundsTest {
         Check.write(x, "G1b");
         x.graph();
         rowsAre("told anew", x, 81, 0);
+        Both y = Check.of("G2a1b0");
+        y.see(4, 'a', 1);
+        rowsAre("to and fro, behind four", y, 81, 0);
+        y.see(3, 'a', 1);
+        rowsAre("to and fro, behind three", y, 0, NONE);
         Check.due("about(9)", x.about(9), 1);
     }
 
@@ -363,6 +368,21 @@ final class ChancesBoundsTest {
         }
     }
 
+    /** Acts are kept, too: where a block was, another may have come. */
+    private static void actsAreKept() {
+        String eleven = "a1,2 b c d e f g h a a a";
+        Both x = Check.pictured(eleven);
+        x.split(0, 1);
+        x.keep(0);
+        x.undo();
+        Check.due("split(0, 2)", x.split(0, 2), 11);
+        Check.due("block(11, 0)", x.block(11, 0), 'c');
+        Check.due("again(0)", x.again(0), 2);
+        Check.due("block(11, 0)", x.block(11, 0), 'b');
+        Check.due("again(1)", x.again(1), 2);
+        Check.same("slot 1", Check.picture(x), eleven);
+    }
+
     /** A slot that is full takes another; what was in it is gone, the other slot is not. */
     private static void keepOver() {
         Both x = Check.of("G2a1b");
@@ -489,6 +509,7 @@ final class ChancesBoundsTest {
         drawnTogether();
         eachSlot();
         keepAll();
+        actsAreKept();
         keepOver();
         keptIsApart();
         noDoingsWhenOneGoesOn();

@@ -90,6 +90,7 @@ final class GraphBoundsTest {
     private static void aboutNothingAndAll() {
         aboutIs("new", new Both(), 0, 0, 0, 0, 0, 0, 1, 0, 0, 0, 0);
         aboutIs("one block", Check.of("G1a"), 1, 0, 1, 0, 0, 0, 1, 0, 0, 0, 3);
+        aboutIs("one loop", Check.of("G1a0"), 1, 1, 1, 1, 0, 1, 1, 1, 0, 0, 4);
         aboutIs("nested", Check.pictured(NESTED), 12, 23, 12, 12, 0, 12, 1, 12, 0, 0, 10);
         aboutIs("alone", Check.pictured(ALONE), 12, 36, 12, 12, 0, 1, 1, 25, 0, 0, 10);
         aboutIs("left out", Check.pictured(LEFT_OUT), 12, 33, 1, 0, 0, 0, 1, 0, 0, 0, 10);
@@ -202,6 +203,26 @@ final class GraphBoundsTest {
         blocksAre("the first can not be many-entered", Check.of("G3a12b20c10"), 4, 2, 3, 0);
     }
 
+    /** Each TYPE of the last of twelve blocks, and of the first, which can not be many-entered. */
+    private static void typesOfTheLastBlock() {
+        String others = " b c d e f g h a a a ";
+        String[] pictures = {"a11" + others + "a", "a11" + others + "a11", "a11 b11 c d e f g h a a a a1", "a11,1 b11 c d e f g h a a a a1"};
+        int[] loops = {0, 1, 1, 1};
+        for (int type = 0; type <= 3; type++) {
+            Both x = Check.pictured(pictures[type]);
+            Check.due("block(11, 4) of " + pictures[type], x.block(11, 4), type);
+            Check.due("block(11, 5)", x.block(11, 5), loops[type]);
+            Check.due("about(3)", x.about(3), loops[type]);
+            Check.due("about(4)", x.about(4), type == 3 ? 1 : 0);
+            Check.due("about(5)", x.about(5), loops[type]);
+            Check.due("about(6)", x.about(6), type == 3 ? 0 : 1);
+        }
+        Both y = Check.pictured("a11" + others + "a0");
+        Check.due("block(0, 4)", y.block(0, 4), 2);
+        Check.due("block(11, 3)", y.block(11, 3), 0);
+        Check.due("sets(0, 1)", y.sets(0, 1), 2049);
+    }
+
     /** "LEADER .. that of its HEADER": the body holds the loop within, not what is in that. */
     private static void loopsWithinAreGathered() {
         Both x = Check.of("G4a1b2c3d210");
@@ -283,6 +304,7 @@ final class GraphBoundsTest {
         aboveItself();
         notAboveBehindGoingBack();
         theLeastOfEachType();
+        typesOfTheLastBlock();
         loopsWithinAreGathered();
         entriesThatWereFound();
         nestOfNoLoop();

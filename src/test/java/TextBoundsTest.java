@@ -114,6 +114,23 @@ final class TextBoundsTest {
         Check.due("fault() behind wipe()", x.fault(), 0);
     }
 
+    /** Letters that were wiped are not read any more, whatever they were. */
+    private static void faultBehindWiping() {
+        String[] wiped = {"G", "G9", "G1", "G1a", "G1a0", "G2a1b", "x", "G8a777b777c777d777e777f777g777h777"};
+        String[] then = {"", "G", "G1", "G1a", "G2a"};
+        int[] want = {0, 1, 2, NONE, 3};
+        for (String ahead : wiped) {
+            for (int i = 0; i < then.length; i++) {
+                Both x = new Both();
+                Check.write(x, ahead);
+                x.wipe();
+                Check.write(x, then[i]);
+                Check.due("fault() of " + then[i] + " behind " + ahead, x.fault(), want[i]);
+                Check.due("graph()", x.graph(), want[i] == NONE ? 1 : LATE);
+            }
+        }
+    }
+
     /** "G": each letter at the first place. */
     private static void faultAtG() {
         for (char c = 0; c <= 255; c++) {
@@ -293,6 +310,7 @@ final class TextBoundsTest {
         lengths();
         badAheadOfFull();
         faultOfNothing();
+        faultBehindWiping();
         faultAtG();
         faultAtN();
         faultAtTheFirstAct();

@@ -300,9 +300,31 @@ final class WouldBoundsTest {
         judged("a b1", 1, 800, NONE);
         judged("a b1", 1, 801, 0);
         judged("a b1", 1, 811, 0);
+        judged("a b1", 1, 810, 0);
         judged("a b1", 1, 802, 0);
         judged("a b1", 1, 820, 0);
         judged("", 1, 800, 0);
+    }
+
+    /** What is told as done is so for all that is told behind it, and for nothing else. */
+    private static void sayingsBehindDoings() {
+        judged("a1 b", 3, 500110502, NONE);
+        judged("a1 b", 3, 600110611, NONE);
+        judged("a1 b", 2, 110701, NONE);
+        judged("a1 b", 2, 200801, 1);
+        judged("a b", 2, 101801, NONE);
+        judged("a1 b1", 4, 511210510301L, NONE);
+        Both x = Check.of("G2a1b");
+        Check.due("judge(2, 110502)", x.judge(2, 110502), NONE);
+        Check.due("judge(1, 502), of the graph again", x.judge(1, 502), 0);
+        Check.due("judge(1, 301)", x.judge(1, 301), NONE);
+        Check.due("judge(1, 302), there is no block 2", x.judge(1, 302), 0);
+        Check.due("judge(1, 301)", x.judge(1, 301), NONE);
+        Check.due("would(1), there are two blocks", x.would(1), 2);
+        Check.due("judge(1, 200)", x.judge(1, 200), NONE);
+        Check.due("cut(0, 0)", x.cut(0, 0), 1);
+        Check.due("judge(1, 101)", x.judge(1, 101), NONE);
+        Check.due("split(0, 1), there is no arc", x.split(0, 1), LATE);
     }
 
     private static void shareIs(String picture, int block, int i, int above, int below) {
@@ -387,6 +409,7 @@ final class WouldBoundsTest {
         judgedDepth();
         judgedHeader();
         judgedPasses();
+        sayingsBehindDoings();
         shares();
         sharesLessThanNothing();
         sharesOfTheLast();
