@@ -1,3 +1,5 @@
+import java.util.function.ToLongFunction;
+
 /** Promises 10 to 14, and the terms of doings: each sentence that names a bound, on both of its sides. */
 final class DoingsBoundsTest {
     private static final int UNKNOWN = -1, LATE = -3, FULL = -4;
@@ -254,31 +256,36 @@ final class DoingsBoundsTest {
         pictureIs("two more are forgotten", x, afterDoings(8));
     }
 
+    /** A row of 14 doings, the first of which is an arc of block 3 to itself. */
+    private static Both withAFullRow() {
+        Both x = Check.of("G4a12b2c1d");
+        Check.due("add(3, 3)", x.add(3, 3), 1);
+        for (int i = 0; i < 13; i++) {
+            Check.due("doing", i % 2 == 0 ? x.add(3, 0) : x.cut(3, 1), i % 2 == 0 ? 2 : 0);
+        }
+        return x;
+    }
+
+    private static void oneMore(String call, ToLongFunction<Both> asked, int want, String atTheEnd) {
+        Both x = withAFullRow();
+        Check.due(call, asked.applyAsLong(x), want);
+        Check.due("about(8)", x.about(8), 14);
+        for (int left = 13; left >= 0; left--) {
+            Check.due("undo()", x.undo(), left);
+        }
+        Check.due("undo()", x.undo(), LATE);
+        pictureIs("all undone behind " + call, x, atTheEnd);
+    }
+
     /** Each kind of doing forgets the first one of a full row; a refused one does not. */
     private static void eachKindForgets() {
-        String[] kinds = {"add", "cut", "split", "mend", "refused"};
-        for (String kind : kinds) {
-            Both x = Check.of("G4a12b2c1d");
-            Check.due("add(3, 3)", x.add(3, 3), 1);
-            for (int i = 0; i < 13; i++) {
-                Check.due("doing", i % 2 == 0 ? x.add(3, 0) : x.cut(3, 1), i % 2 == 0 ? 2 : 0);
-            }
-            int answer = switch (kind) {
-                case "add" -> x.add(3, 1);
-                case "cut" -> x.cut(3, 0);
-                case "split" -> x.split(0, 1);
-                case "mend" -> x.mend();
-                default -> x.split(3, 1);
-            };
-            int[] want = {3, 3, 4, 1, LATE};
-            Check.due(kind, answer, want[java.util.Arrays.asList(kinds).indexOf(kind)]);
-            Check.due("about(8)", x.about(8), 14);
-            for (int left = 13; left >= 0; left--) {
-                Check.due("undo()", x.undo(), left);
-            }
-            Check.due("undo()", x.undo(), LATE);
-            pictureIs("the first of all doings behind " + kind, x, kind.equals("refused") ? "a1,2 b2 c1 d" : "a1,2 b2 c1 d3");
-        }
+        oneMore("add(3, 1)", x -> x.add(3, 1), 3, "a1,2 b2 c1 d3");
+        oneMore("cut(3, 0)", x -> x.cut(3, 0), 3, "a1,2 b2 c1 d3");
+        oneMore("split(0, 1)", x -> x.split(0, 1), 4, "a1,2 b2 c1 d3");
+        oneMore("mend()", Both::mend, 1, "a1,2 b2 c1 d3");
+        oneMore("add(3, 4)", x -> x.add(3, 4), UNKNOWN, "a1,2 b2 c1 d");
+        oneMore("cut(3, 2)", x -> x.cut(3, 2), UNKNOWN, "a1,2 b2 c1 d");
+        oneMore("split(3, 1)", x -> x.split(3, 1), LATE, "a1,2 b2 c1 d");
     }
 
     /** "MENDED: if there are 12 BLOCKS .. one stops": it is a DOING without a SPLIT, and can be undone. */
