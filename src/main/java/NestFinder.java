@@ -517,8 +517,8 @@ public final class NestFinder {
 
     private static int factorial(int n) {
         int product = 1;
-        for (int i = 2; i <= n; i++) {
-            product *= i;
+        for (int i = 1; i < n; i++) {
+            product *= i + 1;
         }
         return product;
     }
@@ -742,7 +742,7 @@ public final class NestFinder {
         void read(Graph graph) {
             clear();
             if (graph.size > 0) {
-                reachedMask = visit(graph, 0, 0);
+                reachedMask = visit(this, graph, 0, 0);
             }
             for (int place = 0; place < reached; place++) {
                 sortArcs(graph, blockAt[place]);
@@ -766,21 +766,21 @@ public final class NestFinder {
         }
 
         /** Answers all that were come to from the block on, itself too. */
-        private int visit(Graph graph, int block, int level) {
-            if (level >= MOST_BLOCKS || reached >= MOST_BLOCKS) {
+        private static int visit(Survey walk, Graph graph, int block, int level) {
+            if (level >= MOST_BLOCKS || walk.reached >= MOST_BLOCKS) {
                 return 0;
             }
-            order[block] = reached;
-            blockAt[reached] = block;
-            reached++;
+            walk.order[block] = walk.reached;
+            walk.blockAt[walk.reached] = block;
+            walk.reached++;
             int found = 1 << block;
             for (int i = 0; i < graph.counts[block]; i++) {
                 int to = graph.target(block, i);
-                if (!hasOrder(to)) {
-                    found |= visit(graph, to, level + 1);
+                if (!walk.hasOrder(to)) {
+                    found |= visit(walk, graph, to, level + 1);
                 }
             }
-            beneath[block] = found;
+            walk.beneath[block] = found;
             return found;
         }
 

@@ -6,7 +6,9 @@ import java.nio.charset.StandardCharsets;
 import java.nio.file.Files;
 import java.nio.file.Path;
 import java.util.ArrayList;
+import java.util.Comparator;
 import java.util.List;
+import java.util.Random;
 import java.util.Set;
 import java.util.TreeSet;
 import java.util.regex.Matcher;
@@ -123,6 +125,46 @@ final class LanguageTest {
         }
     }
 
+    private static Object anyOf(Class<?> type, Random chance) {
+        int[] odd = {-9, -1, 0, 1, 2, 3, 8, 11, 12, 13, 31, 32, 'G', 'a', 'z', 255, 256, Integer.MIN_VALUE, Integer.MAX_VALUE};
+        if (type == boolean.class) {
+            return chance.nextBoolean();
+        }
+        if (type == long.class) {
+            return chance.nextInt(3) == 0 ? chance.nextLong() : Math.floorMod(chance.nextLong(), 1000000000000L);
+        }
+        return chance.nextInt(3) == 0 ? odd[chance.nextInt(odd.length)] : chance.nextInt(13);
+    }
+
+    /** Rule 7: "No call may ever throw or fail to end, for any arguments in any state", also behind the 512th. */
+    private static void noCallThrows() throws ReflectiveOperationException {
+        Random chance = new Random(7);
+        NestFinder x = new NestFinder();
+        for (char letter : "G8a123b45c6d07e1f2g3h4".toCharArray()) {
+            x.write(letter);
+        }
+        List<Method> face = new ArrayList<>();
+        for (Method m : NestFinder.class.getDeclaredMethods()) {
+            // the text stays as it is, so that there are blocks again and again
+            if (Modifier.isPublic(m.getModifiers()) && !Set.of("wipe", "write").contains(m.getName())) {
+                face.add(m);
+            }
+        }
+        face.sort(Comparator.comparing(Method::getName));
+        for (int call = 0; call < 100000; call++) {
+            if (call % 300 == 0) {
+                x.graph();
+            }
+            Method m = face.get(chance.nextInt(face.size()));
+            Object[] given = new Object[m.getParameterCount()];
+            for (int i = 0; i < given.length; i++) {
+                given[i] = anyOf(m.getParameterTypes()[i], chance);
+            }
+            m.invoke(x, given);
+        }
+        Check.due("about(0): there were blocks all the while", x.about(0) >= 8 ? 1 : 0, 1);
+    }
+
     public static void main(String[] args) throws Exception {
         Path root = Path.of(args.length > 0 ? args[0] : ".");
         String source = Files.readString(root.resolve("src/main/java/NestFinder.java"), StandardCharsets.US_ASCII);
@@ -130,6 +172,7 @@ final class LanguageTest {
         classes();
         source(source);
         methodsAreShort(source);
+        noCallThrows();
         Check.end();
     }
 }
